@@ -233,6 +233,21 @@ public final class PromiseTests {
         due("dim", b.memberOf(2, 7), 0);
     }
 
+    static void promise03_memberOf_wouldByTheCount() {
+        WreckBoard b = new WreckBoard();
+        b.member(WRECKER, 6, 1, 0);
+        b.member(SAVER, 3, 0, 1);
+        int[] votes = {6, 5, 4};
+        // 7, 6, 5 to the dark, 6 to the light.
+        for (int i = 0; i < votes.length; i++) {
+            b.change(0, 1, votes[i]);
+            b.rules();
+            due("dim, the count being " + (1 - i), b.memberOf(0, 7), i == 0 ? 1 : 0);
+            tell(b, "member trim;");
+            due("trim, the count being " + (1 - i), b.memberOf(0, 7), i == 2 ? 1 : 0);
+        }
+    }
+
     static void promise03_memberOf_refuses() {
         WreckBoard b = three();
         for (int v : beside(0, 2)) {
@@ -350,6 +365,7 @@ public final class PromiseTests {
         due("fund", b.rock(1, 999), 0);
         due("fund", b.rock(1, 10), 999);
         due("fund is", b.state(7), 10);
+        due("fund", b.rock(1, 0) + b.rock(1, 10), 10);
         for (int v : beside(0, 9)) {
             due("light " + v, b.rock(0, v), BAD);
         }
@@ -542,6 +558,20 @@ public final class PromiseTests {
               "           ^");
         fault("lad if ((( 1<2 ))) and ((((1<2)))) dim;",
               "                          ^");
+        fault("dim dim;",
+              "^");
+        fault("; lad dim;",
+              "^");
+        fault("lad if 1=1 if;",
+              "           ^");
+        fault("lad trim if 1=1;",
+              "         ^");
+        fault("lad if 1(2 dim;",
+              "        ^");
+        fault("lad if 1 9999 2 dim;",
+              "         ^");
+        fault("lad if night number night dim;",
+              "             ^");
         fault("lad if 12345<2 dim;",
               "       ^");
         fault("lad if 1<00002 dim;",
@@ -566,6 +596,24 @@ public final class PromiseTests {
         due("one", tell(b, "wrecker keep;"), 1);
         due("keep", b.memberOf(0, 8), 1);
         due("none", b.rules(), 0);
+        due("dim", b.memberOf(0, 8), 0);
+    }
+
+    static void promise14_rules_allTheTapeHolds() {
+        WreckBoard b = wrecker();
+        feed(b, ";".repeat(200));
+        due("200 that can't stand there", b.rules(), -100);
+        String longest = "member if " + "1=1 and ".repeat(22) + "1=1 trim;";
+        for (int i = 0; i < 9; i++) {
+            due("a long one", tell(b, longest), 1);
+            due("trim", b.memberOf(0, 8), 2);
+        }
+        feed(b, "lad if " + "(".repeat(193));
+        due("the fourth of 193", b.rules(), -110);
+        String nots = "member if " + "not ".repeat(45) + "1=2 keep;";
+        due("not, 45 times", tell(b, nots), 1);
+        due("keep", b.memberOf(0, 8), 1);
+        due("not, 44 times", tell(b, nots.replaceFirst("not ", "")), 1);
         due("dim", b.memberOf(0, 8), 0);
     }
 
@@ -594,6 +642,11 @@ public final class PromiseTests {
         holds("0010 = 10", true);
         holds("9999 > 9998", true);
         holds("greed > votes", true);
+        holds("0 < number", true);
+        holds("0 = number", false);
+        holds("10 > 9", true);
+        holds("1234 > 1233", true);
+        holds("1234 < 1235", true);
         holds("not night = 2", false);
         holds("not not night = 2", true);
         holds("1 = 1 or 1 = 1 and 1 = 2", true);
@@ -682,6 +735,45 @@ public final class PromiseTests {
         due("held at 0, then nearer", d.state(6), 1);
     }
 
+    static void promise15_night_lightByOneStep() {
+        for (int light = 0; light <= 9; light++) {
+            WreckBoard b = new WreckBoard();
+            allShips(b, 0);
+            b.rock(0, light);
+            b.night();
+            due("nearer to 5 from " + light, b.state(6), light < 5 ? light + 1 : light > 5 ? light - 1 : 5);
+            WreckBoard dims = wrecker();
+            dims.rock(0, light);
+            dims.night();
+            int dimmed = Math.max(0, light - 2);
+            due("dim from " + light, dims.state(6), dimmed < 5 ? dimmed + 1 : dimmed > 5 ? dimmed - 1 : 5);
+            WreckBoard trims = new WreckBoard();
+            trims.member(SAVER, 1, 0, 0);
+            tell(trims, "saver trim;");
+            trims.rock(0, light);
+            trims.night();
+            int trimmed = Math.min(9, light + 2);
+            due("trim from " + light, trims.state(6), trimmed < 5 ? trimmed + 1 : trimmed > 5 ? trimmed - 1 : 5);
+        }
+    }
+
+    static void promise15_night_votesLost() {
+        WreckBoard b = new WreckBoard();
+        b.member(SAVER, 2, 0, 0);
+        acts(b, 1, 1, 1);
+        int[] votes = {1, 0, 0};
+        for (int i = 0; i < 3; i++) {
+            b.goAll(0, i, 1);
+            due("dim isn't carried", b.memberOf(0, 1), votes[i]);
+            due("not heard", b.memberOf(0, 4), 0);
+        }
+        WreckBoard k = wrecker();
+        tell(k, "wrecker keep;");
+        acts(k, 1);
+        due("keep: 3, as the ship is lost", k.goAll(0, 0, 1), 3);
+        due("keep: nothing", k.memberOf(0, 1) * 10 + k.memberOf(0, 4), 40);
+    }
+
     static void promise15_night_fundHeld() {
         WreckBoard b = new WreckBoard();
         allShips(b, 15);
@@ -754,6 +846,7 @@ public final class PromiseTests {
             due("k " + k, b.votesFor(k), BAD);
         }
         b.ends(1);
+        due("one night is left", b.votesFor(0), 6);
         b.night();
         due("over: all are worth 0", b.votesFor(0), 0);
     }
@@ -887,6 +980,19 @@ public final class PromiseTests {
         for (int k = 0; k < 6; k++) {
             six.member(WRECKER, 2, 0, 0);
         }
+        six.remake(3, SAVER);
+        six.change(3, 1, 9);
+        due("18 of 33: all orders", six.power(3), 720);
+        due("none", six.power(0), 0);
+        six.change(0, 1, 3);
+        six.change(1, 1, 4);
+        // 4, 5, 3, 18, 3, 3 of 36: 18 isn't more than half, but with any one more.
+        due("all but those in which it is first", six.power(3), 600);
+        due("those behind it at once", six.power(5), 24);
+        six.remake(3, WRECKER);
+        six.change(3, 1, 2);
+        six.change(0, 1, 2);
+        six.change(1, 1, 2);
         for (int k = 0; k < 6; k++) {
             due("of six alike", six.power(k), 120);
         }
@@ -926,6 +1032,7 @@ public final class PromiseTests {
         due("nothing would be better in 1", b.ith(1, 0), 0);
         due("not so many", b.ith(2, 2), NONE);
         due("not so many", b.ith(0, 0), NONE);
+        due("the least ones that carry", b.ith(4, 2) * 10 + b.ith(4, 3), 11);
         b.ends(1);
         due("not so many", b.ith(2, 1), NONE);
         due("it has 1", b.ith(2, 0), 0);
@@ -980,6 +1087,29 @@ public final class PromiseTests {
         b.ends(1);
         due("fewer nights", b.agenda(4, 2), NONE);
         due("bad with no members", new WreckBoard().agenda(1, 1), BAD);
+    }
+
+    /** A farmer that carries dim in night 1, if it wasn't told in night 0: it would have lost a vote by that. */
+    private static WreckBoard waiting() {
+        WreckBoard b = new WreckBoard();
+        b.member(FARMER, 2, 0, 0);
+        b.bench(0, 0, 1);
+        b.ship(0, 0);
+        b.ship(1, 12);
+        return b;
+    }
+
+    static void promise27_agenda_waits() {
+        WreckBoard b = waiting();
+        due("nobody, then the farmer", b.agenda(2, 1), 1);
+        due("night 0 alone", b.agenda(1, 1), NONE);
+        acts(b, 1, 1);
+        due("told twice it carries nothing: 0, and 1", b.wouldBe(0, 0, 2), 1);
+    }
+
+    static void promise28_bars_waits() {
+        due("nobody, then the farmer", waiting().bars(2, 1), NONE);
+        due("night 0 alone", waiting().bars(1, 1), 0);
     }
 
     static void promise28_bars() {
@@ -1040,6 +1170,13 @@ public final class PromiseTests {
         // Told first the saver weighs 4 then: the other one lets it be; it pays in the third night.
         due("the saver", s.play(3), 2);
         due("value", s.game(3), 11);
+        // In 2 the second NIGHT is the other one's: it is for nothing then to tell the saver.
+        due("nobody", s.play(2), 0);
+        // The last of all is the one that carries.
+        WreckBoard last = wrecker();
+        last.member(WRECKER, 1, 1, 0);
+        tell(last, "member if number = 0 keep;");
+        due("the last", last.play(1), 2);
         for (int n : beside(1, 4)) {
             due("n " + n, b.play(n), BAD);
         }
@@ -1161,6 +1298,20 @@ public final class PromiseTests {
         b.report(0, 0, 5, 6);
         b.report(0, 0, 7, 7);
         due("the last", b.liar(), 2);
+        b.forget();
+        b.report(0, 0, 4, 4);
+        b.report(0, 0, 3, 3);
+        due("either, the other way: the least", b.liar(), 0);
+        b.forget();
+        b.report(0, 0, 5, 5);
+        b.report(0, 0, 4, 4);
+        b.report(0, 0, 4, 5);
+        b.report(0, 0, 4, 4);
+        due("the first, by one that is so by all others", b.liar(), 0);
+        b.forget();
+        b.report(0, 0, 4, 5);
+        b.report(0, 0, 5, 6);
+        b.report(0, 0, 7, 7);
         due("none fits", b.lone(0), 0);
     }
 
@@ -1363,6 +1514,13 @@ public final class PromiseTests {
         due("none in it", b.sheet(3, 0, 0), 1);
         due("outside", b.item(3, 0, 0), -12);
         due("again all 0", b.sheet(3, 0, 40) + b.item(3, 0, 39), 1);
+        for (int i = 0; i < 40; i++) {
+            b.write(3, i, 5);
+        }
+        b.sheet(3, 0, 40);
+        for (int i = 0; i < 40; i++) {
+            due("all 0", b.item(3, 0, i), 0);
+        }
         due("refused", b.sheet(3, 0, -2), -14);
         due("as it was", b.item(3, 0, 39), 0);
         due("missing, whatever n", b.sheet(3, -1, HIGH), 1);
@@ -1393,6 +1551,13 @@ public final class PromiseTests {
         }
         due("missing", b.write(0, 0, 1), -11);
         due("missing ahead of outside", b.write(0, -1, 1), -11);
+        for (int at = 0; at < 4; at++) {
+            b.sheet(at, 2, 1);
+            due("write", b.write(at, 0, 7 + at), 1);
+        }
+        for (int at = 0; at < 4; at++) {
+            due("each its own", b.item(at, 2, 0), 7 + at);
+        }
         b.sheet(0, 2, 3);
         for (int i : beside(0, 2)) {
             due("place " + i, b.write(0, i, 1), -12);
@@ -1466,8 +1631,10 @@ public final class PromiseTests {
             b.sheet(1, sort, 1);
             due("sort " + sort, b.goAll(1, 9, 0), -13);
         }
-        b.sheet(1, 0, 20);
-        due("20", b.goAll(1, 0, 20), 0);
+        b.sheet(3, 0, 20);
+        due("20", b.goAll(3, 0, 20), 0);
+        b.ends(6);
+        due("but one is over by then", b.goAll(3, 0, 20), 3);
     }
 
     static void promise46_wouldBe() {
@@ -1490,6 +1657,8 @@ public final class PromiseTests {
         due("nor that", b.wouldBe(0, 2, 1), STATE);
         acts(b, 0, 0);
         due("outside, when it would be over", b.wouldBe(0, 0, 3), -12);
+        b.sheet(3, 0, 2);
+        due("sheet 3", b.wouldBe(3, 0, 2), 6);
         for (int at : beside(0, 3)) {
             due("sheet " + at, b.wouldBe(at, 0, 1), BAD);
         }
@@ -1528,6 +1697,9 @@ public final class PromiseTests {
         due("nothing", b.taken(3, 10), -11);
         b.sheet(3, 1, 7);
         due("still nothing", b.taken(3, 11), -11);
+        b.sheet(0, 4, 2);
+        due("the row of sheet 0", b.shelf(0, 1, 0), 1);
+        due("taken", b.taken(0, 14), 2);
         due("a row", b.shelf(3, 1, 3), 1);
         due("taken", b.taken(3, 11), 7);
         b.sheet(3, 2, 9);
@@ -1633,6 +1805,12 @@ public final class PromiseTests {
         acts(LAD, 1, 3, 2, 7, -15, 61, 40, 12);
         acts(CHAIR, 0, 4, 3, 7, -15, 51, 13, 30, 11, 50, 10, 12);
         acts(WRECKER, 4, 0, 0, 7, 10 ^ 6, 20, 10);
+        WreckBoard b = new WreckBoard();
+        b.member(WRECKER, 1, 1, 4);
+        b.shelf(0, 0, 0);
+        due("parted by 0", b.act(0, 2, 7), -15);
+        due("the next one isn't", b.act(0, 0, 7), 14 ^ 6);
+        due("bodies", b.trace(0) * 100 + b.trace(1), 2010);
     }
 
     static void promise49_act_wraps() {
