@@ -603,6 +603,10 @@ public final class PromiseTests {
         WreckBoard b = wrecker();
         feed(b, ";".repeat(200));
         due("200 that can't stand there", b.rules(), -100);
+        feed(b, "a".repeat(200));
+        due("one name of 200", b.rules(), -100);
+        due("nothing of an earlier tape", tell(b, "lad"), -103);
+        due("nothing of an earlier tape", tell(b, "lad if 1"), -108);
         String longest = "member if " + "1=1 and ".repeat(22) + "1=1 trim;";
         for (int i = 0; i < 9; i++) {
             due("a long one", tell(b, longest), 1);
@@ -657,6 +661,8 @@ public final class PromiseTests {
         holds("not (1 = 2 and 1 = 2)", true);
         holds("1 = 2 or 1 = 2 or 1 = 1", true);
         holds("1 = 1 and 1 = 1 and 1 = 2", false);
+        holds("1 = 1 or (1 = 2 or 1 = 2 and 1 = 2)", true);
+        holds("1 = 1 and (1 = 2 or (1 = 1 and (1 = 1 or 1 = 2 and 1 = 2)))", true);
         holds("not (1 = 1 and not (2 = 2 and not (3 = 3)))", false);
         holds("(1=1 or 1=2) and (1=1 and (1=2 or not (1=2)))", true);
     }
