@@ -1269,7 +1269,7 @@ public final class WreckBoard {
         }
 
         int weighsBy(int votes, int number) {
-            return super.weighsBy(votes, number) / 2 + 1;
+            return (super.weighsBy(votes, number) + 1) / 2;
         }
 
         int counts(Deed deed, int x) {

@@ -154,7 +154,7 @@ final class NaiveBoard {
         }
 
         @Override int weight() {
-            return votes / 2 + 1;
+            return (votes + 1) / 2;
         }
 
         @Override int counts(int x) {

@@ -213,6 +213,60 @@ public final class PromiseTests {
         }
     }
 
+    /** What one weighs with 0, 1, .. 9 votes, whatever its number. */
+    private static void weighsByVotes(int kind, int number, int... want) {
+        WreckBoard b = new WreckBoard();
+        for (int k = 0; k < number; k++) {
+            b.member(WRECKER, 1, 1, 1);
+        }
+        b.member(kind, 0, 0, 0);
+        for (int votes = 0; votes < want.length; votes++) {
+            b.change(number, 1, votes);
+            due("kind " + kind + ", number " + number + ", votes " + votes, b.memberOf(number, 6), want[votes]);
+        }
+    }
+
+    static void promise03_memberOf_weighsByVotes() {
+        for (int number : new int[] {0, 4}) {
+            weighsByVotes(WRECKER, number, 1, 2, 3, 4, 5, 6, 7, 8, 9, 10);
+            weighsByVotes(SAVER, number, 0, 2, 4, 6, 8, 10, 12, 14, 16, 18);
+            // Half of the votes and 1, cut: none with none.
+            weighsByVotes(FARMER, number, 0, 1, 1, 2, 2, 3, 3, 4, 4, 5);
+            weighsByVotes(LAD, number, 0, 1, 1, 2, 2, 3, 3, 3, 3, 3);
+        }
+        weighsByVotes(CHAIR, 0, 0, 2, 4, 6, 8, 10, 12, 14, 16, 18);
+        weighsByVotes(CHAIR, 4, 4, 6, 8, 10, 12, 14, 16, 18, 20, 22);
+    }
+
+    static void promise03_memberOf_whatGoesByWhatFarmersWeigh() {
+        WreckBoard b = new WreckBoard();
+        b.member(WRECKER, 1, 1, 0);
+        b.member(LAD, 4, 0, 1);
+        allShips(b, 13);
+        // 2 to the dark, 2 to the light.
+        due("the count", b.state(8), NEITHER);
+        due("would", b.memberOf(0, 7), 0);
+        due("power: 2 of 4 isn't more than half", b.power(0) * 10 + b.power(1), 11);
+        b.remake(1, FARMER);
+        due("the count: both to the dark", b.state(8), DARK);
+        due("power", b.power(0) * 10 + b.power(1), 11);
+        WreckBoard none = new WreckBoard();
+        none.member(FARMER, 0, 0, 0);
+        allShips(none, 13);
+        due("who weighs nothing carries nothing", none.state(8), NEITHER);
+        due("would", none.memberOf(0, 7), 0);
+        due("on", none.on(1), 1);
+        due("when", none.when(0), NONE);
+        due("best", none.best(2), 2);
+        due("agenda", none.agenda(4, 1), NONE);
+        due("bars", none.bars(4, 1), 0);
+        due("game", none.game(3), 3);
+        due("votes for it", none.votesFor(0), 1);
+        none.change(0, 1, 1);
+        due("with 1 of votes it does", none.on(1), 3);
+        due("when", none.when(0), 0);
+    }
+
     static void promise03_memberOf_wouldAndWill() {
         WreckBoard b = three();
         // 5 to the dark, 6 to the light.
@@ -295,7 +349,7 @@ public final class PromiseTests {
         due("votes", b.memberOf(0, 1), 4);
         due("greed", b.memberOf(0, 2), 1);
         due("heard", b.memberOf(0, 4), 1);
-        due("weighs", b.memberOf(0, 6), 3);
+        due("weighs", b.memberOf(0, 6), 2);
         due("remake", b.remake(0, WRECKER), LAD);
         for (int kind : beside(1, 5)) {
             due("kind " + kind, b.remake(0, kind), BAD);
@@ -1098,7 +1152,7 @@ public final class PromiseTests {
     /** A farmer that carries dim in night 1, if it wasn't told in night 0: it would have lost a vote by that. */
     private static WreckBoard waiting() {
         WreckBoard b = new WreckBoard();
-        b.member(FARMER, 2, 0, 0);
+        b.member(FARMER, 3, 0, 0);
         b.bench(0, 0, 1);
         b.ship(0, 0);
         b.ship(1, 12);
