@@ -1,78 +1,9 @@
-import java.lang.reflect.InvocationTargetException;
-import java.lang.reflect.Method;
 import java.util.Arrays;
-import java.util.Comparator;
 
 /** A test for each promise: what is ordinary, the edges that the document names, and what is refused. */
-public final class PromiseTests {
-    private static final int BAD = -1, FULL = -2, NONE = -3, STATE = -4;
-    private static final int WRECKER = 1, SAVER = 2, CHAIR = 3, FARMER = 4, LAD = 5;
-    private static final int DARK = 2, BRIGHT = 0, NEITHER = 1;
-    private static final int LOW = Integer.MIN_VALUE, HIGH = Integer.MAX_VALUE;
-
-    private static int wrong;
-
+public final class PromiseTests extends Checks {
     public static void main(String[] args) throws IllegalAccessException {
-        int passed = 0;
-        int failed = 0;
-        Method[] tests = PromiseTests.class.getDeclaredMethods();
-        Arrays.sort(tests, Comparator.comparing(Method::getName));
-        for (Method test : tests) {
-            if (test.getName().startsWith("promise")) {
-                if (passes(test)) {
-                    passed++;
-                } else {
-                    failed++;
-                    System.out.println(test.getName() + " failed");
-                }
-            }
-        }
-        System.out.println(passed + " passed, " + failed + " failed");
-        if (failed > 0 || passed == 0) {
-            System.exit(1);
-        }
-    }
-
-    private static boolean passes(Method test) throws IllegalAccessException {
-        wrong = 0;
-        try {
-            test.invoke(null);
-        } catch (InvocationTargetException thrown) {
-            thrown.getCause().printStackTrace(System.out);
-            return false;
-        }
-        return wrong == 0;
-    }
-
-    private static void due(String call, long got, long want) {
-        if (got != want) {
-            wrong++;
-            System.out.println(call + " answered " + got + ", due is " + want);
-        }
-    }
-
-    /** Each number that doesn't stand from least to most, near it and far. */
-    private static int[] beside(int least, int most) {
-        return new int[] {least - 1, most + 1, LOW, HIGH};
-    }
-
-    /** Tells rules by the tape: what rules() answers. */
-    private static int tell(WreckBoard b, String text) {
-        feed(b, text);
-        return b.rules();
-    }
-
-    private static void feed(WreckBoard b, String text) {
-        for (int i = 0; i < text.length(); i++) {
-            b.feed(text.charAt(i), 1);
-        }
-    }
-
-    /** Every night of the board the same ship: 4 times its value, and how near. */
-    private static void allShips(WreckBoard b, int ship) {
-        for (int night = 0; night < 16; night++) {
-            b.ship(night, ship);
-        }
+        runAll(PromiseTests.class);
     }
 
     /**
@@ -1652,13 +1583,6 @@ public final class PromiseTests {
         }
     }
 
-    private static void acts(WreckBoard b, int... acts) {
-        b.sheet(0, 0, acts.length);
-        for (int i = 0; i < acts.length; i++) {
-            b.write(0, i, acts[i]);
-        }
-    }
-
     static void promise45_goAll() {
         WreckBoard b = wrecker();
         acts(b, 0, 1, 2, -1, 0, 1);
@@ -1942,7 +1866,7 @@ public final class PromiseTests {
     // ---- kept
 
     /** All that is kept, asked one by one. */
-    private static int[] allOf(WreckBoard b) {
+    private static int[] keptOf(WreckBoard b) {
         int[] all = new int[120];
         int n = 0;
         for (int what = 0; what <= 8; what++) {
@@ -2008,19 +1932,19 @@ public final class PromiseTests {
         b.seed(1234567);
         b.lot();
         b.night();
-        int[] all = allOf(b);
+        int[] all = keptOf(b);
         due("keep", b.keep(), 1);
-        due("nothing is changed", Arrays.equals(all, allOf(b)) ? 1 : 0, 1);
+        due("nothing is changed", Arrays.equals(all, keptOf(b)) ? 1 : 0, 1);
         spoilAll(b);
-        due("all is otherwise", Arrays.equals(all, allOf(b)) ? 1 : 0, 0);
+        due("all is otherwise", Arrays.equals(all, keptOf(b)) ? 1 : 0, 0);
         due("again", b.again(), 3);
-        due("all is as it was", Arrays.equals(all, allOf(b)) ? 1 : 0, 1);
+        due("all is as it was", Arrays.equals(all, keptOf(b)) ? 1 : 0, 1);
         spoilAll(b);
         due("keep", b.keep(), 1);
-        all = allOf(b);
+        all = keptOf(b);
         b.anew();
         due("again", b.again(), 4);
-        due("the latest is kept", Arrays.equals(all, allOf(b)) ? 1 : 0, 1);
+        due("the latest is kept", Arrays.equals(all, keptOf(b)) ? 1 : 0, 1);
     }
 
     static void promise53_again() {
