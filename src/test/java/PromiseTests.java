@@ -1921,7 +1921,7 @@ public final class PromiseTests extends Checks {
         b.rock(1, 321);
     }
 
-    static void promise52_keep() {
+    private static WreckBoard toKeep() {
         WreckBoard b = three();
         tell(b, "farmer if greed > 1 keep;");
         b.report(3, 0, 4, 6);
@@ -1932,16 +1932,26 @@ public final class PromiseTests extends Checks {
         b.seed(1234567);
         b.lot();
         b.night();
-        int[] all = keptOf(b);
+        return b;
+    }
+
+    static void promise52_keep() {
+        WreckBoard b = toKeep();
+        int[] all = keptOf(toKeep());
         due("keep", b.keep(), 1);
         due("nothing is changed", Arrays.equals(all, keptOf(b)) ? 1 : 0, 1);
         spoilAll(b);
         due("all is otherwise", Arrays.equals(all, keptOf(b)) ? 1 : 0, 0);
         due("again", b.again(), 3);
         due("all is as it was", Arrays.equals(all, keptOf(b)) ? 1 : 0, 1);
+    }
+
+    static void promise52_keep_theLatest() {
+        WreckBoard b = toKeep();
+        b.keep();
         spoilAll(b);
         due("keep", b.keep(), 1);
-        all = keptOf(b);
+        int[] all = keptOf(b);
         b.anew();
         due("again", b.again(), 4);
         due("the latest is kept", Arrays.equals(all, keptOf(b)) ? 1 : 0, 1);
