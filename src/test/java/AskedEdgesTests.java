@@ -75,6 +75,38 @@ public final class AskedEdgesTests extends Checks {
         questionsChangeNothing(AskedEdgesTests::overRich);
     }
 
+    /** Six, none of which carries: each that is told has a vote less. */
+    private static WreckBoard losers() {
+        WreckBoard b = new WreckBoard();
+        for (int k = 0; k < 6; k++) {
+            b.member(SAVER, 9 - k, 1, k);
+        }
+        b.rock(1, 940);
+        return b;
+    }
+
+    static void t3_questionsGiveVotesAndTheFundBack() {
+        questionsChangeNothing(AskedEdgesTests::losers);
+        plansChangeNothing(AskedEdgesTests::losers);
+        othersChangeNothing(AskedEdgesTests::losers);
+        WreckBoard b = losers();
+        b.best(4);
+        b.ways(4);
+        b.agenda(4, 63);
+        b.bars(4, 63);
+        b.game(4);
+        b.play(4);
+        b.times(5, 0);
+        b.prove(4);
+        b.judge();
+        acts(b, 1, 2, 3, 4, 5, 6);
+        b.wouldBe(0, 0, 6);
+        for (int k = 0; k < 6; k++) {
+            due("votes of " + k, b.memberOf(k, 1), 9 - k);
+        }
+        due("fund", b.state(7), 940);
+    }
+
     private static void plansChangeNothing(Supplier<WreckBoard> made) {
         changesNothing(made, "best(4)", b -> b.best(4));
         changesNothing(made, "ith(4, 3)", b -> b.ith(4, 3));
@@ -194,6 +226,34 @@ public final class AskedEdgesTests extends Checks {
         }
         due("votesFor(0), with none of which it carries", against(9).votesFor(0), 0);
         due("votesFor(1): to be outweighed by 4", against(4).votesFor(1), 0);
+    }
+
+    /** A wrecker that carries in the last of 16 nights alone, and by so many votes, or from another bench. */
+    private static WreckBoard inTheLastNight() {
+        WreckBoard b = against(4);
+        tell(b, "wrecker if night = 15 dim; member keep;");
+        b.bench(5, 0, 0);
+        b.ends(16);
+        return b;
+    }
+
+    static void p18_votesFor_allNightsOf16() {
+        due("votesFor(0)", inTheLastNight().votesFor(0), 5);
+        WreckBoard b = inTheLastNight();
+        b.ends(15);
+        due("votesFor(0), there being no night 15", b.votesFor(0), 0);
+    }
+
+    static void p19_benchFor_allNightsOf16() {
+        WreckBoard b = inTheLastNight();
+        b.change(0, 1, 5);
+        b.bench(0, 0, 1);
+        b.change(1, 3, 2);
+        b.bench(2, 0, 1);
+        // It weighs 6, 5 on benches 0, 1, 2; the saver 5.
+        due("benchFor(0)", b.benchFor(0), 3);
+        b.ends(15);
+        due("benchFor(0), there being no night 15", b.benchFor(0), 0);
     }
 
     static void p18_votesFor_suchAsThereAre() {
@@ -576,6 +636,13 @@ public final class AskedEdgesTests extends Checks {
         }
     }
 
+    static void p26_ways_ofTwo() {
+        int[] want = {1, 2, 4, 8, 16};
+        for (int n = 0; n <= 4; n++) {
+            due("ways(" + n + ")", carriers(2).ways(n), want[n]);
+        }
+    }
+
     static void p26_ways_oneAndAllOfThem() {
         WreckBoard b = carriers(6);
         tell(b, "member keep;");
@@ -686,6 +753,28 @@ public final class AskedEdgesTests extends Checks {
         due("bars(1, 4)", b.bars(1, 4), 2);
     }
 
+    /** A farmer that leans to the light, and once to the dark; it carries by its last vote. */
+    private static WreckBoard waits() {
+        WreckBoard b = new WreckBoard();
+        b.member(FARMER, 1, 1, 0);
+        allShips(b, 0);
+        b.ship(2, 12);
+        return b;
+    }
+
+    static void p27_agenda_nobodyAheadOfIt() {
+        due("agenda(3, 1)", waits().agenda(3, 1), 1);
+        due("agenda(2, 1)", waits().agenda(2, 1), NONE);
+        WreckBoard b = waits();
+        acts(b, 1, 0, 1);
+        due("told too soon, it has no vote then", b.wouldBe(0, 0, 3), 1);
+    }
+
+    static void p28_bars_nobodyAheadOfIt() {
+        due("bars(3, 1)", waits().bars(3, 1), NONE);
+        due("bars(2, 1)", waits().bars(2, 1), 0);
+    }
+
     static void p28_bars_over() {
         asked(AskedEdgesTests::over, "bars(4, 3): heard, being over", NONE, b -> b.bars(4, 3));
         asked(AskedEdgesTests::over, "bars(4, 7), being over", 2, b -> b.bars(4, 7));
@@ -754,6 +843,18 @@ public final class AskedEdgesTests extends Checks {
             tell(none, "member keep;");
             due("play(" + n + "), none carrying", none.play(n), 0);
         }
+    }
+
+    static void p30_play_asTheOtherOnePlays() {
+        // 0, then 3 or 2 and 1; or 2, then 1 or 2 and 1: the other one leaves 3 of each.
+        due("play(2)", trims(6, 5).play(2), 0);
+        due("game(2)", trims(6, 5).game(2), 3);
+        // For the night alone it is 2; so it is if the other one is over ahead of its turn.
+        due("play(1)", trims(6, 5).play(1), 1);
+        due("game(1)", trims(6, 5).game(1), 2);
+        WreckBoard b = trims(6, 5);
+        b.ends(1);
+        due("play(2), one night being left", b.play(2), 1);
     }
 
     static void p30_play_over() {

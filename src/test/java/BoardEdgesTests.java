@@ -28,6 +28,17 @@ public final class BoardEdgesTests extends Checks {
         return b.goAll(0, 0, 1);
     }
 
+    // ---- "An object is used for at most 512 calls after it has been made"
+
+    static void t0_512Calls() {
+        WreckBoard b = new WreckBoard();
+        due("call 1", b.member(WRECKER, 4, 1, 0), 0);
+        for (int call = 2; call <= 511; call++) {
+            due("call " + call, b.seed(call), call == 2 ? 1 : call - 1);
+        }
+        due("call 512", b.on(16), 38);
+    }
+
     // ---- Promise 1: "No MEMBERS, RULES, REPORTS; nothing is kept."
 
     static void p01_noMembers() {
@@ -289,22 +300,29 @@ public final class BoardEdgesTests extends Checks {
 
     // ---- "SCORE: what NIGHTS were WORTH (0 at first)."
 
-    static void t1_score_0AtFirst_thenAllNights() {
+    static void t1_score_0AtFirst() {
+        due("state(2)", new WreckBoard().state(2), 0);
+    }
+
+    static void t1_score_ofEachNightThatGoesBy() {
         WreckBoard b = one(WRECKER, 1);
-        due("state(2)", b.state(2), 0);
         b.ends(16);
         allShips(b, 15);
-        due("night()", b.night(), 11);
-        due("score", b.state(2), 11);
-        acts(b, 0, 1);
-        due("goAll", b.goAll(0, 0, 2), 9 + 11);
-        due("score", b.state(2), 31);
-        int worth = b.lot();
-        due("score", b.state(2), 31 + worth);
+        int score = 0;
+        for (int i = 0; i < 3; i++) {
+            score += b.night();
+            due("score behind night()", b.state(2), score);
+            acts(b, 0, 1);
+            score += b.goAll(0, 0, 2);
+            due("score behind goAll()", b.state(2), score);
+            score += b.lot();
+            due("score behind lot()", b.state(2), score);
+        }
+        due("12 ships, and some more", score >= 108 ? 1 : 0, 1);
         b.on(16);
         b.best(4);
         b.wouldBe(0, 0, 2);
-        due("what is asked counts nothing", b.state(2), 31 + worth);
+        due("what is asked counts nothing", b.state(2), score);
     }
 
     // ---- "MEMBERS, 6 at most, numbered as they come"; "HEARD or not (at first)"; promise 2

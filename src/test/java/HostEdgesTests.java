@@ -807,6 +807,9 @@ public final class HostEdgesTests extends Checks {
         b.night();
         tell(b, "member keep;");
         b.forget();
+        for (int r = 0; r < 6; r++) {
+            b.report(r, 1, r, 2 * r);
+        }
         b.seed(99);
         b.ends(16);
         allShips(b, 15);

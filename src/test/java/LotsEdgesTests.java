@@ -201,6 +201,25 @@ public final class LotsEdgesTests extends Checks {
         due("lone(0): night 15 is behind them all", last.lone(0), 500);
     }
 
+    /** The FUND is what all ships brought. */
+    static void p33_lone_theFundOfAllNights() {
+        WreckBoard b = noShips();
+        b.ship(0, 5);
+        b.ship(2, 13);
+        b.ship(4, 9);
+        b.report(0, 0, 0, 0);
+        b.report(5, 1, 30, 30);
+        // Wreckers keep it dark: 5 and 15 and 10.
+        due("lone(1)", b.lone(1), WRECKER);
+        due("lone(3)", b.lone(3), 0);
+        b.report(4, 1, 20, 20);
+        b.report(2, 1, 5, 5);
+        due("lone(1)", b.lone(1), WRECKER);
+        b.report(1, 1, 6, 999);
+        due("lone(0)", b.lone(0), 0);
+        due("liar()", b.liar(), 4);
+    }
+
     /** "from NIGHT 0 on, FUND 0 then", "no ZEAL", "by SHIPS as they are" */
     static void p33_lone_notAsAllIsNow() {
         WreckBoard b = noShips();
@@ -414,6 +433,13 @@ public final class LotsEdgesTests extends Checks {
             due("times(" + n + ", 8)", b.times(n, 8), want);
             due("z is as it was", b.seed(0), -77);
         }
+    }
+
+    static void p37_times_allNightsOf16() {
+        WreckBoard b = new WreckBoard();
+        b.ends(16);
+        due("times(3, 48)", b.times(3, 48), 3);
+        due("times(3, 49)", b.times(3, 49), 0);
     }
 
     static void p37_times_over() {

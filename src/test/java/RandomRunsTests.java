@@ -1,6 +1,8 @@
 import java.lang.reflect.InvocationTargetException;
 import java.lang.reflect.Method;
 import java.util.ArrayList;
+import java.util.Arrays;
+import java.util.Comparator;
 import java.util.List;
 import java.util.SplittableRandom;
 
@@ -10,12 +12,15 @@ public final class RandomRunsTests {
     private static final int CALLS = 512;
 
     private final SplittableRandom chance;
+    /** Half of the calls of such a run have any numbers. */
+    private final boolean wild;
     private final WreckBoard real = new WreckBoard();
     private final NaiveBoard naive = new NaiveBoard();
     private final List<String> told = new ArrayList<>();
 
     private RandomRunsTests(long seed) {
         chance = new SplittableRandom(seed);
+        wild = seed % 3 == 0;
     }
 
     public static void main(String[] args) throws ReflectiveOperationException {
@@ -70,6 +75,11 @@ public final class RandomRunsTests {
 
     private static final Method[] METHODS = WreckBoard.class.getDeclaredMethods();
 
+    /** The public ones, in an order that is always the same. */
+    private static final Method[] FACE = Arrays.stream(WreckBoard.class.getMethods())
+        .filter(method -> method.getDeclaringClass() == WreckBoard.class)
+        .sorted(Comparator.comparing(Method::getName)).toArray(Method[]::new);
+
     private Object callReal(String name, long[] args) throws ReflectiveOperationException {
         for (Method method : METHODS) {
             if (method.getName().equals(name)) {
@@ -117,6 +127,10 @@ public final class RandomRunsTests {
 
     private List<Object[]> someCalls() {
         List<Object[]> calls = new ArrayList<>();
+        if (wild && chance.nextInt(2) == 0) {
+            anyCall(calls);
+            return calls;
+        }
         int dice = chance.nextInt(100);
         if (dice < 22) {
             boardCall(calls);
@@ -138,6 +152,26 @@ public final class RandomRunsTests {
             add(calls, chance.nextInt(2) == 0 ? "keep" : "again");
         }
         return calls;
+    }
+
+    /** Any method, with any numbers. */
+    private void anyCall(List<Object[]> calls) {
+        Method method = FACE[chance.nextInt(FACE.length)];
+        long[] args = new long[method.getParameterCount()];
+        for (int i = 0; i < args.length; i++) {
+            args[i] = anyInt();
+        }
+        add(calls, method.getName(), args);
+    }
+
+    private int anyInt() {
+        int[] edges = {Integer.MIN_VALUE, Integer.MAX_VALUE, 0x10000, -0x10000, 1 << 30, 199, 200, 201, 998, 999, 1000,
+            63, 64, 65, 39, 40, 41};
+        int dice = chance.nextInt(10);
+        if (dice == 0) {
+            return chance.nextInt();
+        }
+        return dice < 3 ? edges[chance.nextInt(edges.length)] + chance.nextInt(3) - 1 : chance.nextInt(20) - 3;
     }
 
     private void boardCall(List<Object[]> calls) {

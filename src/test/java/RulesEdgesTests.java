@@ -120,6 +120,10 @@ public final class RulesEdgesTests extends Checks {
         faultAt(" ".repeat(197) + "lad", 200);
         faultAt("lad" + " ".repeat(197), 200);
         faultAt("a".repeat(200), 0);
+        faultAt(";".repeat(200), 0);
+        faultAt("lad dim;".repeat(2) + "!".repeat(184), 16);
+        faultAt("lad if " + "(".repeat(193), 10);
+        faultAt("lad if not(" + "1=".repeat(94) + "1", 14);
         faultAt(" ".repeat(100) + "9".repeat(100), 100);
     }
 
@@ -192,7 +196,7 @@ public final class RulesEdgesTests extends Checks {
         due("will of 5", b.memberOf(5, 8), TRIM);
     }
 
-    // ---- "FAULT: the place of the first byte of the first NAME, NUMBER or other byte that can't stand there"
+    // ---- "the first byte of the first NAME, NUMBER or other byte that can't stand there"
 
     private static final String[] KINDS = {"member", "wrecker", "saver", "chair", "farmer", "lad"};
     private static final String[] DOS = {"dim", "keep", "trim"};
