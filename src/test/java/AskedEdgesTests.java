@@ -398,8 +398,8 @@ public final class AskedEdgesTests extends Checks {
         asked(AskedEdgesTests::overRich, "wrecks(1), being over", 40, b -> b.wrecks(1));
     }
 
-    // ---- promise 22: "what -1 how many, 0 .. 5 MEMBERS of that MEMBER's PARTY, as a set (0: it is HEARD). BAD: also no
-    // ---- such MEMBER."
+    // ---- promise 22: "what -1 how many, 0 .. 5 MEMBERS of that MEMBER's PARTY, as a set (0: it is HEARD). BAD:
+    // ---- also no such MEMBER."
 
     static void p22_parties_what() {
         bounds("parties(..) of five", -1, 4, (b, v) -> b.parties(v));
@@ -817,7 +817,8 @@ public final class AskedEdgesTests extends Checks {
     }
 
     static void p29_game_theOtherOneWantsLittle() {
-        // By light 5 she is lost, for 9, or it is trimmed, for 2 and 1. By 6, if it was trimmed ahead, she goes by, for 1.
+        // By light 5 she is lost, for 9, or it is trimmed, for 2 and 1; by 6, if it was trimmed ahead, she goes by, for
+        // 1.
         WreckBoard b = trims(14, 5);
         due("game(2): 0 and 3, or 2 and 1", b.game(2), 3);
         due("play(2): the least of both", b.play(2), 0);

@@ -510,8 +510,8 @@ public final class HostEdgesTests extends Checks {
         due("taken(1, 13)", b.taken(1, 13), 40);
     }
 
-    // ---- promise 48: "taken for a thing of KIND as (0 to 5, or one under it): its number; for a row of sort as - 10 (as
-    // ---- 10 to 14): how many items. BAD: no such SHELF, as; -13; -11."
+    // ---- promise 48: "taken for a thing of KIND as (0 to 5, or one under it): its number; for a row of sort as - 10
+    // ---- (as 10 to 14): how many items. BAD: no such SHELF, as; -13; -11."
 
     static void p48_taken_badShelfOrAs() {
         for (int shelf : beside(0, 3)) {

@@ -283,8 +283,8 @@ public final class LotsEdgesTests extends Checks {
         due("lone(3)", b.lone(3), 8);
     }
 
-    // ---- promise 34: "LIAR: if none FITS, the least REPORT but for which some would."; "NONE: some FIT; or there is no
-    // ---- such REPORT."
+    // ---- promise 34: "LIAR: if none FITS, the least REPORT but for which some would."; "NONE: some FIT; or there is
+    // ---- no such REPORT."
 
     static void p34_liar_noReports() {
         asked(WreckBoard::new, "liar()", NONE, b -> b.liar());
